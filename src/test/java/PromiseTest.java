@@ -156,6 +156,8 @@ public final class PromiseTest {
         SegmentLocks x = withTasks(2);
         x.ask(1, 0, 2);
         due("3 option 3 beside exclusive", x.ask(2, 0, 3), 1);
+        due("3 option 3 again", x.ask(2, 0, 3), 1);
+        due("3 still active", x.state(2, 0), 0);
         due("3 takes no lock", x.state(2, 1), 0);
         due("3 no holder by it", x.ask(2, 1, 3) + x.holder(1), 1);
         due("3 may read", read(x, 2, 0), 0);
@@ -380,6 +382,20 @@ public final class PromiseTest {
         due("8 2 was restarted", y.state(2, 3), 1);
     }
 
+    private static void promise8RestartedIsBackedOut() {
+        SegmentLocks x = withTasks(2);
+        x.ask(1, 0, 2);
+        x.ask(2, 1, 2);
+        x.ask(2, 5, 3);
+        due("8 reads without a lock", read(x, 2, 5), 0);
+        x.ask(1, 1, 2);
+        due("8 restarted", x.ask(2, 0, 2), -1);
+        due("8 what it might look at is gone", read(x, 2, 5), STATE);
+        agree(x, 1, 5, 3);
+        x.sync(2);
+        due("8 what it had read is forgotten", x.serial(), true);
+    }
+
     /** 4 waits for two with reads; the ring by the lesser number is broken first, then the other. */
     private static void promise8AgainAndByNumbers() {
         SegmentLocks x = new SegmentLocks();
@@ -568,6 +584,13 @@ public final class PromiseTest {
         agree(x, 1, 0, 0);
         x.sync(2);
         due("13 the second read saw another number", x.serial(), false);
+        SegmentLocks w = withTasks(2);
+        w.ask(2, 0, 3);
+        read(w, 2, 0);
+        agree(w, 1, 0, 6);
+        read(w, 2, 0);
+        w.sync(2);
+        due("13 the first read saw another number", w.serial(), false);
         SegmentLocks y = withTasks(2);
         y.ask(2, 0, 3);
         read(y, 2, 0);
@@ -575,6 +598,13 @@ public final class PromiseTest {
         y.backout(2);
         y.sync(2);
         due("13 backed out work has read nothing", y.serial(), true);
+        y.ask(1, 0, 2);
+        y.write(1, 0, 7);
+        y.ask(2, 0, 3);
+        due("13 sees the other's write", read(y, 2, 0), 7);
+        y.backout(2);
+        y.sync(2);
+        due("13 backed out work has seen nothing", y.serial(), true);
         SegmentLocks z = withTasks(2);
         z.ask(2, 0, 3);
         read(z, 2, 0);
@@ -599,7 +629,7 @@ public final class PromiseTest {
     }
 
     private static void promise15State() {
-        SegmentLocks x = withTasks(3);
+        SegmentLocks x = withTasks(4);
         int[] fresh = {0, 0, 0, 0, -1, 0};
         for (int what = 0; what < 6; what++) {
             due("15 new, what = " + what, x.state(1, what), fresh[what]);
@@ -616,6 +646,8 @@ public final class PromiseTest {
         x.ask(2, 1, 2);
         x.ask(2, 2, 0);
         x.write(2, 1, 1);
+        x.ask(1, 48, 2);
+        x.ask(4, 48, 2);
         x.ask(3, 49, 0);
         x.ask(2, 49, 0);
         int[] waits = {1, 2, 1, 0, 49, 1};
@@ -649,6 +681,7 @@ public final class PromiseTest {
         promise7Backout();
         promise8Ring();
         promise8Youngest();
+        promise8RestartedIsBackedOut();
         promise8AgainAndByNumbers();
         promise8RowBlocks();
         promise9Checkpoint();
