@@ -13,7 +13,7 @@ public final class FaceTest {
             "public int task(int)",
             "public int ask(int,int,int)",
             "public int write(int,int,long)",
-            "public long read(int,int)",
+            "public long read(int,int) throws IllegalArgumentException,IllegalStateException",
             "public int sync(int)",
             "public int backout(int)",
             "public int ring(int)",
@@ -22,13 +22,11 @@ public final class FaceTest {
             "public int limit(int)",
             "public int holder(int)",
             "public boolean serial()",
-            "public long value(int)",
+            "public long value(int) throws IllegalArgumentException",
             "public int state(int,int)");
 
-    private static String withoutThrows(String text) {
-        String bare = text.replace("SegmentLocks.", "");
-        int at = bare.indexOf(" throws ");
-        return at < 0 ? bare : bare.substring(0, at);
+    private static String plain(String text) {
+        return text.replace("SegmentLocks.", "").replace("java.lang.", "");
     }
 
     public static void main(String[] args) {
@@ -36,17 +34,17 @@ public final class FaceTest {
         Set<String> publicNames = new TreeSet<>();
         for (Field f : SegmentLocks.class.getDeclaredFields()) {
             if (!Modifier.isPrivate(f.getModifiers())) {
-                shown.add(withoutThrows(f.toString()));
+                shown.add(plain(f.toString()));
             }
         }
         for (Constructor<?> c : SegmentLocks.class.getDeclaredConstructors()) {
             if (!Modifier.isPrivate(c.getModifiers())) {
-                shown.add(withoutThrows(c.toString()));
+                shown.add(plain(c.toString()));
             }
         }
         for (Method m : SegmentLocks.class.getDeclaredMethods()) {
             if (!Modifier.isPrivate(m.getModifiers())) {
-                shown.add(withoutThrows(m.toString()));
+                shown.add(plain(m.toString()));
                 publicNames.add(m.getName());
             }
         }

@@ -1,4 +1,3 @@
-import java.util.ArrayDeque;
 import java.util.ArrayList;
 import java.util.List;
 import java.util.Random;
@@ -155,24 +154,45 @@ public final class ModelTest {
             return found;
         }
 
-        private List<Integer> shortestRing(int start) {
-            ArrayDeque<List<Integer>> ways = new ArrayDeque<>();
-            TreeSet<Integer> known = new TreeSet<>();
-            ways.add(List.of(start));
-            while (!ways.isEmpty()) {
-                List<Integer> way = ways.remove();
-                for (int next : blockers(way.get(way.size() - 1))) {
-                    if (next == start) {
-                        return way;
-                    }
-                    if (known.add(next)) {
-                        List<Integer> longer = new ArrayList<>(way);
-                        longer.add(next);
-                        ways.add(longer);
+        /** How many steps each waiting task is away from the start, by blockers; none: there is no way. */
+        private TreeMap<Integer, Integer> stepsTo(int start, TreeMap<Integer, TreeSet<Integer>> blockers) {
+            TreeMap<Integer, Integer> steps = new TreeMap<>();
+            steps.put(start, 0);
+            for (int far = 0; steps.containsValue(far); far++) {
+                for (int t : blockers.keySet()) {
+                    for (int next : blockers.get(t)) {
+                        if (steps.getOrDefault(next, -1) == far) {
+                            steps.putIfAbsent(t, far + 1);
+                        }
                     }
                 }
             }
-            return null;
+            return steps;
+        }
+
+        /**
+         * The least one by numbers of the shortest ones, which is what a look level by level finds.
+         * Told by the ways back, so that it is not the same look as that of the class.
+         */
+        private List<Integer> shortestRing(int start) {
+            TreeMap<Integer, TreeSet<Integer>> blockers = new TreeMap<>();
+            wishes.keySet().forEach(t -> blockers.put(t, blockers(t)));
+            TreeMap<Integer, Integer> steps = stepsTo(start, blockers);
+            List<Integer> way = new ArrayList<>();
+            for (int at = start; at != start || way.isEmpty(); ) {
+                way.add(at);
+                int nearest = 0;
+                for (int next : blockers.getOrDefault(at, new TreeSet<>())) {
+                    if (steps.containsKey(next) && (nearest == 0 || steps.get(next) < steps.get(nearest))) {
+                        nearest = next;
+                    }
+                }
+                if (nearest == 0) {
+                    return null;
+                }
+                at = nearest;
+            }
+            return way;
         }
 
         private void clear(int t, int stateThen) {

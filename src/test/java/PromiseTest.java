@@ -665,7 +665,28 @@ public final class PromiseTest {
         due("15 the dead wait for none", x.state(2, 4), -1);
     }
 
+    /** The example in README.md, call by call. */
+    private static void readmeExample() {
+        SegmentLocks locks = new SegmentLocks();
+        int old = locks.task(1);
+        due("README number of the first", old, 1);
+        int young = locks.task(2);
+        due("README number of the second", young, 2);
+        due("README ask(old, 0, 2)", locks.ask(old, 0, 2), 1);
+        due("README ask(young, 1, 2)", locks.ask(young, 1, 2), 1);
+        due("README write(old, 0, 42)", locks.write(old, 0, 42L), 1);
+        due("README ask(old, 1, 0)", locks.ask(old, 1, 0), 0);
+        due("README ask(young, 0, 0)", locks.ask(young, 0, 0), -1);
+        due("README ring(0)", locks.ring(0), 2);
+        due("README ring(1)", locks.ring(1), 1);
+        due("README state(old, 0)", locks.state(old, 0), 0);
+        due("README sync(old)", locks.sync(old), 1);
+        due("README value(0)", value(locks, 0), 42);
+        due("README serial()", locks.serial(), true);
+    }
+
     public static void main(String[] args) {
+        readmeExample();
         promise1New();
         promise2Task();
         promise3Together();
